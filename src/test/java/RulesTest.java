@@ -1,0 +1,178 @@
+import java.io.IOException;
+import java.lang.management.ManagementFactory;
+import java.lang.reflect.Executable;
+import java.lang.reflect.Field;
+import java.lang.reflect.Method;
+import java.lang.reflect.Modifier;
+import java.nio.file.Files;
+import java.nio.file.Path;
+import java.util.ArrayList;
+import java.util.List;
+import java.util.Set;
+import java.util.TreeSet;
+import java.util.regex.Matcher;
+import java.util.regex.Pattern;
+
+/** The rules of LANGUAGE.md that can be looked at: the face, its inner classes, the source, the room. */
+public final class RulesTest {
+    private static final Set<String> FACE = Set.of(
+            "int feed(int,int,int,int,int)", "boolean end(int)", "int fault(int)", "int text(int)",
+            "int rule(int)", "int sample(int)", "int peak(int,int)", "int basin(int,int)", "int at(int,int)",
+            "int line(int,int)", "int smooth()", "int median()", "int flat()", "int turn()", "int clip(int)",
+            "int lift(int)", "int scale(int,int)", "int set(int,int)", "int noise(int)", "int cut(int,int)",
+            "int ways(int,long)", "int status(int)", "int undo()", "int log(int,int)", "int noiseFor(int)",
+            "int pieces(int)", "int room(int)", "int unlike()", "int shift(int)", "int missed()",
+            "int would(int,int,int)", "int solo()", "int tallest(int)", "int change(int)", "int spell(int,int)",
+            "int step(int,int,int)", "int run(int,int)", "int perform(int)", "int most(int)", "int image()",
+            "int back()", "int held(int)");
+
+    private RulesTest() {
+    }
+
+    public static void main(String[] args) throws IOException {
+        face();
+        innerClasses();
+        source(Files.readString(Path.of(args[0])));
+        room();
+        Checks.close("RulesTest");
+    }
+
+    private static void due(String what, boolean right) {
+        Checks.due(what, right, true);
+    }
+
+    private static List<Class<?>> classes() {
+        List<Class<?>> all = new ArrayList<>(List.of(TracePeaks.class));
+        for (int i = 0; i < all.size(); i++) {
+            all.addAll(List.of(all.get(i).getDeclaredClasses()));
+        }
+        return all;
+    }
+
+    private static void face() {
+        Set<String> names = new TreeSet<>();
+        Set<String> told = new TreeSet<>();
+        for (Method method : TracePeaks.class.getDeclaredMethods()) {
+            if (Modifier.isPublic(method.getModifiers())) {
+                names.add(method.getName());
+                told.add(signature(method));
+            }
+        }
+        due("the face is " + told, told.equals(FACE));
+        due("the class is public and final", TracePeaks.class.getModifiers() == (Modifier.PUBLIC | Modifier.FINAL));
+        due("one constructor", TracePeaks.class.getDeclaredConstructors().length == 1);
+        for (Method method : TracePeaks.class.getDeclaredMethods()) {
+            int modifiers = method.getModifiers();
+            due(method + " is public or private", Modifier.isPublic(modifiers) || Modifier.isPrivate(modifiers));
+        }
+        for (Class<?> one : classes()) {
+            for (Method method : one.getDeclaredMethods()) {
+                boolean ofFace = one == TracePeaks.class && Modifier.isPublic(method.getModifiers());
+                due(method + " bears no public name", ofFace || !names.contains(method.getName()));
+            }
+        }
+        Set<String> constants = new TreeSet<>();
+        for (Field field : TracePeaks.class.getDeclaredFields()) {
+            int modifiers = field.getModifiers();
+            if (!Modifier.isPrivate(modifiers)) {
+                constants.add(Modifier.toString(modifiers) + " " + field.getName());
+            }
+        }
+        due("constants " + constants, constants.equals(Set.of("public static final NONE", "public static final HIDDEN")));
+    }
+
+    private static String signature(Method method) {
+        StringBuilder told = new StringBuilder(method.getReturnType() + " " + method.getName() + "(");
+        for (Class<?> type : method.getParameterTypes()) {
+            told.append(told.charAt(told.length() - 1) == '(' ? "" : ",").append(type);
+        }
+        return told.append(')').toString();
+    }
+
+    private static void innerClasses() {
+        due("some twelve classes", classes().size() <= 12);
+        for (Class<?> one : classes()) {
+            int fields = 0;
+            for (Field field : one.getDeclaredFields()) {
+                boolean isStatic = Modifier.isStatic(field.getModifiers());
+                fields += isStatic ? 0 : 1;
+                due(field + " is final if static", !isStatic || Modifier.isFinal(field.getModifiers()));
+            }
+            due(one + " has some twenty fields", fields <= 20);
+            List<Executable> all = new ArrayList<>(List.of(one.getDeclaredMethods()));
+            all.addAll(List.of(one.getDeclaredConstructors()));
+            for (Executable method : all) {
+                due(method + " takes seven at most", method.getParameterCount() <= 7);
+            }
+            if (one != TracePeaks.class) {
+                int modifiers = one.getModifiers();
+                due(one + " is static", Modifier.isStatic(modifiers));
+                due(one + " is private or package-visible", !Modifier.isPublic(modifiers) && !Modifier.isProtected(modifiers));
+            }
+        }
+    }
+
+    private static void source(String text) {
+        String code = text.replaceAll("(?s)/\\*.*?\\*/", "").replaceAll("//[^\n]*", "");
+        String[] never = {"->", "::", "\\bcatch\\b", "\\bfinally\\b", "\\bsynchronized\\b", "\\bassert\\b", "^package",
+            "\\bstatic\\s*\\{", "\\bString\\.(format|valueOf)", "Exact\\(", "\\bprotected\\b", "\\bObject\\b",
+            "\\bequals\\(", "\\bhashCode\\(", "\\btoString\\(", "\\bRandom\\b", "\"\\s*\\+", "\\+\\s*\"",
+            "\\bMath\\.(?!min|max|abs|floorDiv|floorMod)", "\\bSystem\\.(?!arraycopy)"};
+        for (String part : never) {
+            due("the source has no " + part, !Pattern.compile(part, Pattern.MULTILINE).matcher(code).find());
+        }
+        Matcher imports = Pattern.compile("(?m)^import (.*);").matcher(code);
+        while (imports.find()) {
+            due("import " + imports.group(1), imports.group(1).equals("java.util.NoSuchElementException"));
+        }
+        int start = 0;
+        String[] lines = text.split("\n");
+        for (int i = 0; i < lines.length; i++) {
+            if (lines[i].matches("    (    )?\\S.*\\{")) {
+                start = i;
+            }
+            boolean ofClass = lines[start].contains("class ");
+            if (lines[i].matches("    (    )?\\}")) {
+                due("line " + (i + 1) + ": sixty lines at most", ofClass || i - start <= 60);
+            }
+            due("line " + (i + 1) + " is of signs 1 to 127", lines[i].chars().allMatch(c -> c < 128));
+        }
+    }
+
+    // The room.
+
+    private static long allocated() {
+        return ((com.sun.management.ThreadMXBean) ManagementFactory.getThreadMXBean()).getCurrentThreadAllocatedBytes();
+    }
+
+    private static final String TRACE =
+            "trace 1 9 2 8 3 7 4 6 5 9 1 8 2 7 3 6 4 5 1 9 2 8 3 7 4 6 5 9 1 8 2 7 3 6 4 5 1 9 2 8 3 7 4 6 5 9 1 8;line a 3;line b 7";
+
+    private static void room() {
+        TracePeaks x = Checks.traced(TRACE);
+        Checks.script(x, "lift 3;flat;turn;smooth;median;noise 1;cut 0 40;set 3 9;scale 5 4;clip 900");
+        Checks.write(x, TRACE);
+        for (int i = 0; i < 2000; i++) {
+            everyCall(x, i);
+        }
+        long before = allocated();
+        for (int i = 0; i < 100; i++) {
+            everyCall(x, i);
+        }
+        due("no call makes an object", allocated() - before < 1000);
+        before = allocated();
+        TracePeaks y = new TracePeaks();
+        long made = allocated() - before;
+        due("a new object takes " + made + " bytes", made < 40000 && y.held(0) == 0);
+    }
+
+    private static int everyCall(TracePeaks x, int i) {
+        int sum = x.fault(0) + x.fault(1) + x.feed(0, 0, 0, 0, 0) + (x.end(x.held(2)) ? 1 : 0) + x.text(2);
+        sum += x.rule(i % 8) + x.sample(i % 48) + x.peak(0, i % 9) + x.basin(0, i % 4) + x.at(i % 48, i % 2) + x.line(0, i % 3);
+        sum += x.image() + x.smooth() + x.median() + x.flat() + x.turn() + x.clip(999) + x.lift(1) + x.scale(3, 2);
+        sum += x.set(3, i % 1000) + x.noise(i % 9) + x.cut(0, x.held(0)) + x.ways(40, i) + x.status(0) + x.undo() + x.log(0, 0);
+        sum += x.noiseFor(3) + x.pieces(5) + x.room(i % 2) + x.unlike() + x.shift(i % 2) + x.missed() + x.would(3, 5, i % 3);
+        sum += x.solo() + x.tallest(1) + x.change(i % 2) + x.spell(0, i % 9 - 1) + x.step(0, i % 10, i % 3) + x.run(0, i % 2);
+        return sum + x.perform(0) + x.most(i % 8) + x.back() + x.held(i % 5);
+    }
+}
