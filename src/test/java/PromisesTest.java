@@ -62,6 +62,7 @@ public final class PromisesTest {
         image();
         back();
         held();
+        aFullTrace();
         Checks.close("PromisesTest");
     }
 
@@ -108,6 +109,12 @@ public final class PromisesTest {
         y.end(390);
         due("up to 400 but some", y.feed(0x20202020, 0x20202020, 0x20202000, 0, 0), NONE);
         due("up to 400", y.feed(0x20202020, 0x20202020, 0x20200000, 0, 0), 400);
+        y.end(399);
+        for (int i = 0; i < 5; i++) {
+            due("two bytes behind 399, number " + i, y.feed(i == 0 ? 257 : 0, i == 1 ? 257 : 0, i == 2 ? 257 : 0,
+                    i == 3 ? 257 : 0, i == 4 ? 257 : 0), NONE);
+            due("the tape stays", y.held(2), 399);
+        }
     }
 
     // Promise 3
@@ -164,6 +171,8 @@ public final class PromisesTest {
         faultDue(0, "traces 1", 0);
         faultDue(0, "trac 1", 0);
         faultDue(0, "tra ce 1", 0);
+        faultDue(0, "drace 1", 0);
+        faultDue(0, "trace1z", 6);
         faultDue(0, " smooth", 1);
         faultDue(0, "trace1", NONE);
         faultDue(0, "trace1;noise2;reach3;linea4", 21);
@@ -176,6 +185,8 @@ public final class PromisesTest {
         faultDue(0, "noise;trace 1", 5);
         faultDue(0, "noise x;trace 1", 6);
         faultDue(0, "noise -1;trace 1", 6);
+        faultDue(0, "noise -0;trace 1", 6);
+        faultDue(0, "noise 0;reach 0;trace 0;line z 0;line az 0", NONE);
         faultDue(0, "noise 999;trace 999", NONE);
         faultDue(0, "noise 1000;trace 1", 6);
         faultDue(0, "noise 0001;trace 1", 6);
@@ -499,6 +510,7 @@ public final class PromisesTest {
         due("flat() of nothing above", x.flat(), 0);
         TracePeaks nested = Checks.traced("trace 90 10 40 30 50 20 60;noise 60");
         due("flat() of one in another", nested.flat(), 5);
+        due("down to what is 1 above", Checks.traced("trace 90 10 11 12 11 10;noise 5").flat(), 3);
         Checks.samplesDue("of several the least", nested, "90 10 10 10 10 10 10");
         TracePeaks none = new TracePeaks();
         refusedWithoutTrace("flat()", none, none.flat());
@@ -663,6 +675,12 @@ public final class PromisesTest {
             due("ways(" + n + "): status", z.status(0) + z.status(1), 0);
             due("ways(" + n + "): log", z.held(3), 0);
         }
+        TracePeaks once = hills();
+        TracePeaks byHand = hills();
+        once.ways(1, 99);
+        drawByHand(byHand, 1, 99);
+        Checks.samplesDue("ways(1, 99)", once, Checks.samples(byHand));
+        due("ways(1, 99): log", once.held(3), 1);
         due("ways of no trace", new TracePeaks().ways(1, 1), NONE);
         TracePeaks none = new TracePeaks();
         none.ways(1, 1);
@@ -847,6 +865,7 @@ public final class PromisesTest {
         x.noise(3);
         due("all: to grow", x.room(0), 6);
         due("all: to fall", x.room(1), 3);
+        due("two are kept", Checks.traced("trace 9 0 5").room(0), 4);
         due("room(0) of no trace", new TracePeaks().room(0), NONE);
     }
 
@@ -863,6 +882,17 @@ public final class PromisesTest {
         due("one grew", x.unlike(), 20 + 909);
         x.cut(0, 1);
         due("all but one are gone", x.unlike(), 175);
+        x.image();
+        x.set(0, 0);
+        x.undo();
+        x.lift(-10);
+        due("one lower, as unlike", x.unlike(), 0);
+        TracePeaks more = Checks.traced("trace 9 1 8 1 7 1 6");
+        more.would(0, 8, 0);
+        more.cut(0, 1);
+        more.image();
+        more.undo();
+        due("more than in the image", more.unlike(), 8 + 7 + 6 + 5);
         due("unlike() of no trace", new TracePeaks().unlike(), NONE);
     }
 
@@ -915,6 +945,11 @@ public final class PromisesTest {
         due("would(-1, 0, 0)", x.would(-1, 0, 0), NONE);
         due("would(0, 1000, 0)", x.would(0, 1000, 0), NONE);
         due("would(0, -1, 0)", x.would(0, -1, 0), NONE);
+        x.undo();
+        x.scale(2, 1);
+        due("would(9, 40, 0) behind an act", x.would(9, 40, 0), 5);
+        due("would(9, 24, 0) behind an act", x.would(9, 24, 0), 4);
+        x.undo();
         due("would is no act", x.status(0) + x.status(1) + x.held(3), 0);
         due("would(0, 1, 0) of no trace", new TracePeaks().would(0, 1, 0), NONE);
     }
@@ -942,6 +977,7 @@ public final class PromisesTest {
         TracePeaks like = Checks.traced("trace 9 1 7 0 7 5 8");
         due("of several", like.tallest(1), 1);
         due("of the next generation", like.tallest(2), 3);
+        due("of like ones the lowest", Checks.traced("trace 9 1 7 0 7").tallest(1), 1);
         due("tallest(0) of no trace", new TracePeaks().tallest(0), NONE);
     }
 
@@ -956,6 +992,13 @@ public final class PromisesTest {
         TracePeaks one = Checks.traced("trace 4 4");
         due("of several the lowest", one.change(0), 0);
         due("of several the lowest: kept", one.change(1), 1);
+        TracePeaks low = Checks.traced("trace 1 0 1 0 9");
+        due("set to 0, not to 1", low.change(0), 0);
+        due("set to 0, not to 1: kept", low.change(1), 2);
+        low.set(2, 0);
+        low.set(4, 1);
+        due("behind acts", low.change(0), 0);
+        due("behind acts: kept", low.change(1), 1);
         due("change(0) of no trace", new TracePeaks().change(0), NONE);
     }
 
@@ -977,6 +1020,8 @@ public final class PromisesTest {
         Checks.due("the longest", Checks.spelt(one, 0).equals("abcdef@11:999"), true);
         TracePeaks bare = Checks.traced("trace 0");
         Checks.due("without a line", Checks.spelt(bare, 0).equals("?@0:0"), true);
+        TracePeaks ten = Checks.traced("trace 1 1 1 1 1 1 1 1 1 1 10");
+        Checks.due("ten", Checks.spelt(ten, 0).equals("?@10:10"), true);
         TracePeaks hundred = Checks.traced("trace 100");
         Checks.due("a hundred", Checks.spelt(hundred, 0).equals("?@0:100"), true);
     }
@@ -1071,6 +1116,7 @@ public final class PromisesTest {
         x.noise(20);
         due("generations of all peaks", x.most(4), 2);
         due("matched", x.most(5), 3);
+        due("generations of one peak", Checks.traced("trace 1").most(4), 0);
         due("widest of several: the lowest", Checks.traced("trace 9 0 9").most(6), 0);
     }
 
@@ -1104,6 +1150,13 @@ public final class PromisesTest {
         due("sample(0)", x.sample(0), 25);
         x.set(0, 0);
         due("undo() behind back()", x.undo(), 0);
+        x.turn();
+        x.image();
+        x.undo();
+        x.clip(700);
+        x.back();
+        due("the log's own rows: sort", x.log(0, 0), 3);
+        due("the log's own rows: number", x.log(0, 1), 0);
         due("back() of no trace", new TracePeaks().back(), NONE);
     }
 
@@ -1119,5 +1172,75 @@ public final class PromisesTest {
         }
         due("held(5)", x.held(5), HIDDEN);
         due("held(-1)", x.held(-1), HIDDEN);
+    }
+
+    // All that 48 samples ask: peak k stands at 46 - 2k, 56 - 2k high, and dies at 5 into peak k - 1.
+
+    private static TracePeaks full() {
+        StringBuilder text = new StringBuilder("trace");
+        for (int i = 0; i < 48; i++) {
+            text.append(' ').append(i % 2 == 0 ? 10 + i : 5);
+        }
+        return Checks.traced(text.toString());
+    }
+
+    private static void aFullTrace() {
+        TracePeaks x = full();
+        int[] rules = {48, 0, 1, 0, 24, 24, 5, 912};
+        int[] mosts = {552, 672, 672, 672, 23, 0, 0, 56};
+        for (int i = 0; i < 8; i++) {
+            due("full: rule(" + i + ")", x.rule(i), rules[i]);
+            due("full: most(" + i + ")", x.most(i), mosts[i]);
+        }
+        for (int k = 0; k < 24; k++) {
+            int at = 46 - 2 * k;
+            long[] want = {at, at + 10, k == 0 ? NONE : at + 1, 5, at + 5, k - 1, 1, k, NONE};
+            for (int what = 0; what < 9; what++) {
+                due("full: peak(" + k + ", " + what + ")", Checks.peak(x, k, what), want[what]);
+            }
+            due("full: basin(" + k + ", 0)", x.basin(k, 0), Math.max(0, at - 1));
+            due("full: basin(" + k + ", 1)", x.basin(k, 1), k == 0 ? 47 : at);
+            due("full: basin(" + k + ", 2)", x.basin(k, 2), at + 5);
+            due("full: basin(" + k + ", 3)", x.basin(k, 3), 1);
+            due("full: noiseFor(" + (k + 1) + ")", x.noiseFor(k + 1), k == 23 ? 0 : at + 3);
+            due("full: tallest(" + k + ")", x.tallest(k), k);
+            due("full: at(" + at + ", 0)", x.at(at, 0), k);
+        }
+        due("full: at(47, 1)", x.at(47, 1), 0);
+        due("full: pieces(6)", x.pieces(6), 24);
+        due("full: pieces(5)", x.pieces(5), 1);
+        due("full: change(0)", x.change(0), 0);
+        due("full: change(1)", x.change(1), 23);
+        due("full: solo()", x.solo(), 1);
+        due("full: would(47, 999, 1)", x.would(47, 999, 1), 47);
+        actsOnFull(x);
+    }
+
+    private static void actsOnFull(TracePeaks x) {
+        x.smooth();
+        due("full: smooth(): sample(0)", x.sample(0), 8);
+        due("full: smooth(): sample(47)", x.sample(47), 17);
+        x.undo();
+        due("full: median()", x.median(), 23);
+        due("full: median(): sample(0)", x.sample(0), 10);
+        due("full: median(): sample(47)", x.sample(47), 5);
+        x.undo();
+        x.noise(49);
+        due("full: flat()", x.flat(), 23);
+        x.undo();
+        due("full: turn()", x.turn(), 5);
+        due("full: turn(): sample(1)", x.sample(1), 56);
+        due("full: turn(): sample(47)", x.sample(47), 10);
+        x.undo();
+        due("full: clip(5)", x.clip(5), 24);
+        x.undo();
+        due("full: lift(1)", x.lift(1), 6);
+        x.undo();
+        due("full: scale(2, 1)", x.scale(2, 1), 112);
+        x.undo();
+        due("full: cut(0, 48)", x.cut(0, 48), 0);
+        due("full: cut(1, 48)", x.cut(1, 48), NONE);
+        due("full: cut(47, 1)", x.cut(47, 1), 47);
+        due("full: the last sample", x.sample(0), 5);
     }
 }
