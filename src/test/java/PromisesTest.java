@@ -414,6 +414,10 @@ public final class PromisesTest {
         TracePeaks w = Checks.traced("trace 9 7 6 5 2");
         due("half is cut", w.basin(0, 3), 3);
         due("the whole trace", w.basin(0, 1), 4);
+        due("width up to the end", Checks.traced("trace 0 8 9 8").basin(0, 3), 3);
+        TracePeaks two = Checks.traced("trace 9 4 2 8;noise 1");
+        due("the least stands beside the right one", two.basin(1, 0), 2);
+        due("the left one ends ahead of it", two.basin(0, 1), 1);
         TracePeaks v = Checks.traced("trace 8 9 7 8 0;noise 2");
         due("width goes over what is not kept", v.basin(0, 3), 4);
         TracePeaks u = Checks.traced("trace 20 15 18 0");
@@ -558,6 +562,7 @@ public final class PromisesTest {
         TracePeaks x = hills();
         due("lift(-20)", x.lift(-20), 0);
         Checks.samplesDue("lift(-20)", x, "0 20 0 70 10 40 30 50 0 5");
+        due("lift(0) with the least at place 0", Checks.traced("trace 1 2").lift(0), 1);
         due("lift(950)", x.lift(950), 950);
         Checks.samplesDue("lift(950)", x, "950 970 950 999 960 990 980 999 950 955");
         due("lift(999)", x.lift(999), 999);
@@ -1094,7 +1099,11 @@ public final class PromisesTest {
         due("samples", x.rule(0), 10);
         due("perform(2)", x.perform(2), 0);
         due("perform(0)", x.perform(0), 3);
-        due("perform(3)", x.perform(3), NONE);
+        due("log of a step with two numbers", x.log(0, 1), 4);
+        Checks.script(x, "smooth");
+        due("perform of one without numbers", x.perform(3), 1);
+        due("its log(0, 1)", x.log(0, 1), 0);
+        due("perform(4)", x.perform(4), NONE);
         due("perform(-1)", x.perform(-1), NONE);
         TracePeaks none = new TracePeaks();
         Checks.script(none, "turn");
@@ -1157,6 +1166,12 @@ public final class PromisesTest {
         x.back();
         due("the log's own rows: sort", x.log(0, 0), 3);
         due("the log's own rows: number", x.log(0, 1), 0);
+        x.noise(0);
+        x.image();
+        x.undo();
+        x.noise(999);
+        x.back();
+        due("the log's own rows: kept", x.log(0, 2), x.rule(5));
         due("back() of no trace", new TracePeaks().back(), NONE);
     }
 

@@ -141,8 +141,11 @@ public final class RulesTest {
 
     // The room.
 
+    private static final com.sun.management.ThreadMXBean COUNTER =
+            (com.sun.management.ThreadMXBean) ManagementFactory.getThreadMXBean();
+
     private static long allocated() {
-        return ((com.sun.management.ThreadMXBean) ManagementFactory.getThreadMXBean()).getCurrentThreadAllocatedBytes();
+        return COUNTER.getCurrentThreadAllocatedBytes();
     }
 
     private static final String TRACE =
@@ -155,15 +158,19 @@ public final class RulesTest {
         for (int i = 0; i < 2000; i++) {
             everyCall(x, i);
         }
-        long before = allocated();
-        for (int i = 0; i < 100; i++) {
+        // The machine itself may make something at times: the least of several is the program's own.
+        long least = Long.MAX_VALUE;
+        long made = Long.MAX_VALUE;
+        for (int i = 0; i < 10; i++) {
+            long before = allocated();
             everyCall(x, i);
+            least = Math.min(least, allocated() - before);
+            before = allocated();
+            new TracePeaks();
+            made = Math.min(made, allocated() - before);
         }
-        due("no call makes an object", allocated() - before < 1000);
-        before = allocated();
-        TracePeaks y = new TracePeaks();
-        long made = allocated() - before;
-        due("a new object takes " + made + " bytes", made < 40000 && y.held(0) == 0);
+        due("calls make objects of " + least + " bytes", least == 0);
+        due("a new object takes " + made + " bytes", made < 30000);
     }
 
     private static int everyCall(TracePeaks x, int i) {
