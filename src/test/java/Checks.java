@@ -26,6 +26,14 @@ final class Checks {
         due(call, got ? 1 : 0, want ? 1 : 0);
     }
 
+    static int right() {
+        return right;
+    }
+
+    static int wrong() {
+        return wrong;
+    }
+
     static boolean anyWrong() {
         return wrong > 0;
     }
