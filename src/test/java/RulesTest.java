@@ -2,12 +2,14 @@ import java.io.IOException;
 import java.lang.management.ManagementFactory;
 import java.lang.reflect.Executable;
 import java.lang.reflect.Field;
+import java.lang.reflect.InvocationTargetException;
 import java.lang.reflect.Method;
 import java.lang.reflect.Modifier;
 import java.nio.file.Files;
 import java.nio.file.Path;
 import java.util.ArrayList;
 import java.util.List;
+import java.util.NoSuchElementException;
 import java.util.Set;
 import java.util.TreeSet;
 import java.util.regex.Matcher;
@@ -33,6 +35,7 @@ public final class RulesTest {
         face();
         innerClasses();
         source(Files.readString(Path.of(args[0])));
+        anyArguments();
         room();
         Checks.close("RulesTest");
     }
@@ -136,6 +139,73 @@ public final class RulesTest {
                 due("line " + (i + 1) + ": sixty lines at most", ofClass || i - start <= 60);
             }
             due("line " + (i + 1) + " is of signs 1 to 127", lines[i].chars().allMatch(c -> c < 128));
+        }
+    }
+
+    // No call throws by itself, whatever it is given in whatever state.
+
+    private static final int[] NUMBERS = {Integer.MIN_VALUE, Integer.MIN_VALUE + 1, -1000, -999, -1, 0, 1, 7, 8, 40, 47, 48, 99,
+        999, 1000, Integer.MAX_VALUE - 1, Integer.MAX_VALUE};
+
+    private static TracePeaks state(int sort) {
+        TracePeaks x = new TracePeaks();
+        if (sort > 0) {
+            Checks.write(x, sort == 1 ? "trace 7" : TRACE).text(0);
+        }
+        if (sort > 2) {
+            x.image();
+            x.ways(40, 5);
+            for (int i = 0; i < 4; i++) {
+                Checks.script(x, "set 47 999;cut 40 8;lift -999;scale 99 1;noise -1");
+            }
+            Checks.write(x, TRACE);
+        }
+        return x;
+    }
+
+    private static void anyArguments() {
+        for (Method method : TracePeaks.class.getDeclaredMethods()) {
+            if (Modifier.isPublic(method.getModifiers())) {
+                for (int sort = 0; sort < 4; sort++) {
+                    anyArguments(method, sort);
+                }
+            }
+        }
+    }
+
+    private static void anyArguments(Method method, int sort) {
+        int many = method.getParameterCount();
+        int runs = 1;
+        for (int i = 0; i < many; i++) {
+            runs *= many > 3 && i > 1 ? 2 : NUMBERS.length;
+        }
+        TracePeaks x = state(sort);
+        for (int run = 0; run < runs; run++) {
+            // An object is used for some 500 calls.
+            x = run % 400 == 399 ? state(sort) : x;
+            Object[] arguments = new Object[many];
+            int left = run;
+            for (int i = 0; i < many; i++) {
+                int number = NUMBERS[left % NUMBERS.length];
+                left /= many > 3 && i > 1 ? 2 : NUMBERS.length;
+                if (method.getParameterTypes()[i] == long.class) {
+                    arguments[i] = number < -1000 || number > 1000 ? Long.MAX_VALUE - number : (long) number;
+                } else {
+                    arguments[i] = number;
+                }
+            }
+            due(method.getName() + List.of(arguments) + " of state " + sort + " throws nothing of its own", answers(x, method, arguments));
+        }
+    }
+
+    private static boolean answers(TracePeaks x, Method method, Object[] arguments) {
+        try {
+            method.invoke(x, arguments);
+            return true;
+        } catch (InvocationTargetException e) {
+            return method.getName().equals("peak") && e.getCause() instanceof NoSuchElementException;
+        } catch (IllegalAccessException e) {
+            return false;
         }
     }
 

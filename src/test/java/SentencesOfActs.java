@@ -75,6 +75,7 @@ final class SentencesOfActs {
             actDue("0 8", TracePeaks::smooth, 1, "2 6");
             actDue("7", TracePeaks::smooth, 1, "7");
             actDue("8 0 0 0 12", TracePeaks::smooth, 2, "6 2 0 3 9");
+            actDue("4" + " 0".repeat(46) + " 8", TracePeaks::smooth, 2, "3 1" + " 0".repeat(44) + " 2 6");
         });
         Sentences.test(12, T3, "not there; all as they were).", () -> actDue("0 8 0 0", TracePeaks::smooth, 1, "2 4 2 0"));
         Sentences.test(12, "SMOOTH: KEPT ones.", () -> {
@@ -93,6 +94,7 @@ final class SentencesOfActs {
             actDue("1 2 3", TracePeaks::median, 1, "1 2 3");
             actDue("3 1 2 0", TracePeaks::median, 1, "3 2 1 0");
             actDue("0 9", TracePeaks::median, 1, "0 9");
+            actDue("4" + " 0".repeat(46) + " 8", TracePeaks::median, 2, "4" + " 0".repeat(46) + " 8");
             actDue("7", TracePeaks::median, 1, "7");
         });
         Sentences.test(13, "MEDIAN: KEPT ones.", () -> {
@@ -126,6 +128,9 @@ final class SentencesOfActs {
             TracePeaks z = Checks.traced("trace 9 5 6 7 6;noise 2");
             due("up to the end", z.flat(), 3);
             Checks.samplesDue("up to the end", z, "9 5 5 5 5");
+            TracePeaks full = Checks.traced("trace 9 5" + " 6".repeat(46) + ";noise 1");
+            due("up to the end of 48", full.flat(), 46);
+            Checks.samplesDue("up to the end of 48", full, "9" + " 5".repeat(47));
             TracePeaks like = Checks.traced("trace 9 5 7 5 6 0;noise 1");
             due("what is just DEATH ends it", like.flat(), 1);
             Checks.samplesDue("what is just DEATH ends it", like, "9 5 7 5 5 0");
@@ -188,6 +193,7 @@ final class SentencesOfActs {
             actDue("4 5 6", x -> x.clip(0), 3, "0 0 0");
             actDue("999", x -> x.clip(999), 0, "999");
             actDue("999", x -> x.clip(998), 1, "998");
+            actDue("9" + " 9".repeat(47), x -> x.clip(8), 48, "8" + " 8".repeat(47));
         });
         Sentences.test(16, "CLIP: how many SAMPLES are less than they were.", () -> {
             TracePeaks x = hills();
@@ -220,6 +226,7 @@ final class SentencesOfActs {
             actDue("0 999", x -> x.lift(999), 999, "999 999");
             actDue("0 999", x -> x.lift(-999), 0, "0 0");
             actDue("0 999", x -> x.lift(0), 0, "0 999");
+            actDue("9" + " 9".repeat(47), x -> x.lift(1), 10, "10" + " 10".repeat(47));
         });
         Sentences.test(17, "LIFT: the least SAMPLE.", () -> {
             TracePeaks x = hills();
@@ -258,6 +265,7 @@ final class SentencesOfActs {
             actDue("7 10 999", x -> x.scale(99, 99), 999, "7 10 999");
             actDue("666 667", x -> x.scale(3, 2), 999, "999 999");
             actDue("665", x -> x.scale(3, 2), 997, "997");
+            actDue("9" + " 9".repeat(47), x -> x.scale(2, 1), 18, "18" + " 18".repeat(47));
         });
         Sentences.test(18, "SCALE: the greatest SAMPLE.", () -> {
             TracePeaks x = hills();
@@ -367,6 +375,12 @@ final class SentencesOfActs {
             due("LINES stay", x.line(1, 0), 8);
             due("NOISE stays", x.rule(1), 15);
             due("lift(0)", x.lift(0), 20);
+            TracePeaks wide = Checks.traced("trace 5 8 8 8 8;noise 2");
+            due("cut(0, 3)", wide.cut(0, 3), 2);
+            due("WIDTH up to the end that is now", wide.basin(0, 3), 2);
+            due("AREA up to the end that is now", wide.basin(0, 2), 6);
+            due("clip(6) of these", wide.clip(6), 2);
+            due("the most of these", wide.cut(0, 4), NONE);
             due("smooth() at the end that is now", x.smooth() + x.sample(4), 1 + (60 + 50 + 50 + 50) / 4);
         });
         Sentences.test(21, "CUT: how many SAMPLES are gone.", () -> {

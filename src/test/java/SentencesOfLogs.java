@@ -369,6 +369,15 @@ final class SentencesOfLogs {
             due("the LOG", x.held(3), 1);
             due("log(0, 0)", x.log(0, 0), 3);
             due("log(0, 2)", x.log(0, 2), 4);
+            x.noise(20);
+            x.image();
+            x.undo();
+            x.set(3, 999);
+            due("back()", x.back(), 2);
+            due("the sort that was UNDONE", x.log(0, 0), 8);
+            due("its number", x.log(0, 1), 20);
+            due("how many were KEPT then", x.log(0, 2), 2);
+            due("the one ahead", x.log(1, 0), 3);
         });
         Sentences.test(42, T5, "BACK: it is so again", () -> {
             TracePeaks x = hills();

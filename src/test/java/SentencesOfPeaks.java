@@ -102,6 +102,8 @@ final class SentencesOfPeaks {
         Sentences.test(8, T2, "all that is its goes to the other one, its PARENT, and so does the sample.", () -> {
             peaksDue("trace 5 3 4 1 9", new int[] {4, 9, NONE, 1, NONE}, new int[] {0, 5, 3, 1, 0}, new int[] {2, 4, 1, 3, 1});
             peaksDue("trace 9 1 4 3 5", new int[] {0, 9, NONE, 1, NONE}, new int[] {4, 5, 1, 1, 0}, new int[] {2, 4, 3, 3, 1});
+            peaksDue("trace 9 2 5 4 1 7", new int[] {0, 9, NONE, 1, NONE}, new int[] {5, 7, 4, 1, 0}, new int[] {2, 5, 1, 2, 0});
+            peaksDue("trace 7 1 4 5 2 9", new int[] {5, 9, NONE, 1, NONE}, new int[] {0, 7, 1, 1, 0}, new int[] {3, 5, 4, 2, 0});
             peaksDue("trace 4 3 5 1 9", new int[] {4, 9, NONE, 1, NONE}, new int[] {2, 5, 3, 1, 0}, new int[] {0, 4, 1, 3, 1});
             peaksDue("trace 6 5 7 4 8 3 9", new int[] {6, 9, NONE, 3, NONE}, new int[] {4, 8, 5, 3, 0},
                     new int[] {2, 7, 3, 4, 1}, new int[] {0, 6, 1, 5, 2});
@@ -181,6 +183,12 @@ final class SentencesOfPeaks {
             TracePeaks x = Checks.traced("trace 9 4 2 5 8");
             basinDue(x, 0, 0, 1);
             basinDue(x, 1, 2, 4);
+            TracePeaks besideRight = Checks.traced("trace 9 4 2 8");
+            basinDue(besideRight, 0, 0, 1);
+            basinDue(besideRight, 1, 2, 3);
+            TracePeaks besideLeft = Checks.traced("trace 9 2 4 8");
+            basinDue(besideLeft, 0, 0, 0);
+            basinDue(besideLeft, 1, 1, 3);
             TracePeaks three = Checks.traced("trace 9 1 5 2 8");
             basinDue(three, 0, 0, 0);
             basinDue(three, 2, 1, 2);
@@ -428,6 +436,12 @@ final class SentencesOfPeaks {
             for (int i = 0; i < 10; i++) {
                 due("at(" + i + ", 0)", x.at(i, 0), want[i]);
             }
+            x.set(5, 40);
+            due("at(5, 0) once none begins there", x.at(5, 0), NONE);
+            TracePeaks y = Checks.traced("trace 9 0 5");
+            due("at(2, 0)", y.at(2, 0), 1);
+            y.set(2, 0);
+            due("at(2, 0) once none begins there", y.at(2, 0), NONE);
         });
         Sentences.test(10, "the KEPT one in whose BASIN it is (1).", () -> {
             TracePeaks x = hills();

@@ -215,6 +215,8 @@ final class SentencesOfQuestions {
             x.image();
             x.undo();
             due("9 5 3 and 9", x.unlike(), 5 + 3);
+            x.noise(999);
+            due("9 5 3 and 9, KEPT or not", x.unlike(), 5 + 3);
         });
         Sentences.test(29, "UNLIKE.", () -> {
             TracePeaks x = hills();
@@ -390,11 +392,20 @@ final class SentencesOfQuestions {
             due("the last", y.change(0), 3);
             due("KEPT", y.change(1), 1);
             due("SET to 0, not to 1", Checks.traced("trace 1 0 1 0 9").change(0), 0);
+            due("SET to 0, not below", Checks.traced("trace 5 0 7 1 9;noise 5").change(0), 2);
+            x.set(1, 10);
+            due("behind an ACT", x.change(0), 9);
+            due("behind an ACT: KEPT", x.change(1), 2);
+            TracePeaks other = hills();
+            due("another TRACE is asked of", Checks.write(other, "trace 1").fault(0), NONE);
+            due("change(0) of that which is", other.change(0), 1);
         });
         Sentences.test(35, T4, "(of several the lowest);", () -> {
             due("all alike", Checks.traced("trace 4 4").change(0), 0);
             due("one of two", Checks.traced("trace 9 0 5 0 5").change(0), 0);
             due("none changes it", Checks.traced("trace 0 0 0").change(0), 0);
+            due("one of 48", Checks.traced("trace" + " 9 1".repeat(24)).change(0), 0);
+            due("one of 48: KEPT", Checks.traced("trace" + " 9 1".repeat(24)).change(1), 23);
             due("one SAMPLE", Checks.traced("trace 5").change(0), 0);
         });
         Sentences.test(35, T4, "(of several the lowest); how many.", () -> {

@@ -68,6 +68,10 @@ final class SentencesOfScripts {
             due("undo()", x.undo(), 1);
             due("undo()", x.undo(), 0);
             Checks.samplesDue("undone", x, Sentences.HILL_SAMPLES);
+            TracePeaks plain = with("clip 50;smooth");
+            due("perform(0)", plain.perform(0), 2);
+            due("a STEP without a number", plain.log(0, 1), 0);
+            due("a STEP with one", plain.log(1, 1), 50);
             TracePeaks flat = with("noise 20;flat;noise 0");
             due("perform(0)", flat.perform(0), 3);
             due("as it was told", flat.rule(5), 2);

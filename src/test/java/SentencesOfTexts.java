@@ -261,6 +261,14 @@ final class SentencesOfTexts {
             faultDue(0, "noise 1000;trase 1", 6);
             faultDue(1, "clip 1000;foo", 5);
             faultDue(1, "turn;  foo;clip 1000", 7);
+            faultDue(0, ";foo", 0);
+            faultDue(0, "trace ;foo", 6);
+            faultDue(0, "noise ;foo", 6);
+            faultDue(0, "line ;foo", 5);
+            faultDue(0, "line a ;foo", 7);
+            faultDue(1, "turn;;foo", 5);
+            faultDue(1, "clip ;foo", 5);
+            faultDue(1, "set 1 ;foo", 6);
         });
         Sentences.test(4, T1, "(the length, if the TEXT ends too early,", () -> {
             String[] traces = {"", "   ", "trace", "trace  ", "trace 1;", "trace 1; ", "noise", "trace 1;noise", "reach ",
@@ -313,6 +321,9 @@ final class SentencesOfTexts {
         Sentences.test(4, T1, "a WORD that is none of these,", () -> {
             faultDue(0, "traces 1", 0);
             faultDue(0, "trac 1", 0);
+            faultDue(0, "drace 1", 0);
+            faultDue(0, "trade 1", 0);
+            faultDue(0, "tracf 1", 0);
             faultDue(0, "trace 1;lines a 4", 8);
             faultDue(0, "trace 1;smooth", 8);
             faultDue(0, "a 1;trace 1", 0);
@@ -363,6 +374,10 @@ final class SentencesOfTexts {
             faultDue(0, "reach x;trace 1", 6);
             faultDue(0, "trace 1;line a b", 15);
             faultDue(0, "trace 1;line a -4", 15);
+            faultDue(0, "trace -0", 6);
+            faultDue(0, "noise -0;trace 1", 6);
+            faultDue(0, "reach -0;trace 1", 6);
+            faultDue(0, "trace 1;line a -0", 15);
             faultDue(1, "clip x", 5);
             faultDue(1, "clip ;turn", 5);
             faultDue(1, "set 1 x", 6);
@@ -458,6 +473,25 @@ final class SentencesOfTexts {
             Checks.write(x, "clip 5");
             due("fault(0)", x.fault(0), 0);
             due("fault(1)", x.fault(1), NONE);
+            TracePeaks y = Sentences.hills();
+            Checks.write(y, "trace 1 2;reach 7;noise 3;line zz 3");
+            due("fault(0) of another TRACE", y.fault(0), NONE);
+            due("the REACH that is", y.rule(2), 1);
+            due("the NOISE that is", y.rule(1), 15);
+            due("the LINES that are", y.rule(3), 4);
+            due("line(0, 0)", y.line(0, 0), 4);
+            due("MISSED", y.missed(), 0);
+            y.noise(20);
+            due("MISSED of less NOISE", y.missed(), 4 + 8);
+            y.noise(15);
+            TracePeaks z = Checks.traced("trace 8 0 9;reach 0;line a 9;line b 11");
+            due("fault(0) of another TRACE", Checks.write(z, "trace 1;line zz 3").fault(0), NONE);
+            due("the SHIFT above 0", z.shift(0), 9);
+            due("as it was", Checks.write(z, "trace 0 0 9;reach 0;line b 1").text(0), 3);
+            due("fault(0) of another TRACE", Checks.write(z, "trace 1;line zz 3").fault(0), NONE);
+            due("the SHIFT below 0", z.shift(0), -1);
+            due("the SPELL of its NAME", y.spell(0, 0), 'a');
+            Checks.samplesDue("the SAMPLES that are", y, Sentences.HILL_SAMPLES);
         });
         Sentences.test(4, "NONE: none.", () -> {
             TracePeaks x = Checks.write(new TracePeaks(), "trace 1");
