@@ -6,13 +6,6 @@ public final class PromisesTest {
     private static final int LOW = Integer.MIN_VALUE;
     private static final int HIGH = Integer.MAX_VALUE;
 
-    /*
-     * By falling persistence: 0 at 3 (90, 85), 1 at 7 (70, dies in 4 at 30: 40), 2 at 1 (40, in 2
-     * at 20: 20), 3 at 9 (25, in 8 at 5: 20), 4 at 5 (60, in 6 at 50: 10, into 1).
-     */
-    private static final String HILLS =
-            "trace 10 40 20 90 30 60 50 70 5 25;noise 15;line alpha 4;line b 8;line c 8;line d 0";
-
     private PromisesTest() {
     }
 
@@ -71,7 +64,7 @@ public final class PromisesTest {
     }
 
     private static TracePeaks hills() {
-        return Checks.traced(HILLS);
+        return Sentences.hills();
     }
 
     // Promise 1
@@ -661,7 +654,7 @@ public final class PromisesTest {
         TracePeaks x = hills();
         TracePeaks y = hills();
         due("ways(40, 7)", x.ways(40, 7), x.rule(5));
-        drawByHand(y, 40, 7);
+        SentencesOfLogs.byHand(y, 40, 7);
         Checks.samplesDue("ways(40, 7)", x, Checks.samples(y));
         due("its log", x.held(3), 40);
         for (int i = 0; i < 40; i++) {
@@ -672,7 +665,7 @@ public final class PromisesTest {
         TracePeaks low = hills();
         TracePeaks hand = hills();
         low.ways(3, Long.MIN_VALUE);
-        drawByHand(hand, 3, Long.MIN_VALUE);
+        SentencesOfLogs.byHand(hand, 3, Long.MIN_VALUE);
         Checks.samplesDue("ways(3, the least seed)", low, Checks.samples(hand));
         for (int n : new int[] {0, 41, -1, LOW, HIGH}) {
             TracePeaks z = hills();
@@ -683,42 +676,13 @@ public final class PromisesTest {
         TracePeaks once = hills();
         TracePeaks byHand = hills();
         once.ways(1, 99);
-        drawByHand(byHand, 1, 99);
+        SentencesOfLogs.byHand(byHand, 1, 99);
         Checks.samplesDue("ways(1, 99)", once, Checks.samples(byHand));
         due("ways(1, 99): log", once.held(3), 1);
         due("ways of no trace", new TracePeaks().ways(1, 1), NONE);
         TracePeaks none = new TracePeaks();
         none.ways(1, 1);
         due("ways of no trace: status", none.status(0), 0);
-    }
-
-    private static long x;
-
-    private static int draw(int j) {
-        x = x * 6364136223846793005L + 1442695040888963407L;
-        return (int) ((x >>> 33) % j);
-    }
-
-    private static void drawByHand(TracePeaks y, int n, long seed) {
-        x = seed;
-        for (int i = 0; i < n; i++) {
-            int sort = draw(8);
-            if (sort == 0) {
-                y.smooth();
-            } else if (sort == 1) {
-                y.median();
-            } else if (sort == 2) {
-                y.flat();
-            } else if (sort < 6) {
-                int place = draw(y.held(0));
-                y.set(place, draw(1000));
-            } else if (sort == 6) {
-                y.noise(draw(200));
-            } else {
-                int times = draw(100);
-                y.scale(times, draw(9) + 1);
-            }
-        }
     }
 
     // Promise 23

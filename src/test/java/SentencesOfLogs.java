@@ -308,7 +308,8 @@ final class SentencesOfLogs {
         return drawn.shiftRight(33).mod(BigInteger.valueOf(j)).intValue();
     }
 
-    private static void byHand(TracePeaks y, int n, long seed) {
+    /** What WAYS draws, by its own arithmetic, asked act by act. */
+    static void byHand(TracePeaks y, int n, long seed) {
         drawn = BigInteger.valueOf(seed).mod(BigInteger.ONE.shiftLeft(64));
         for (int i = 0; i < n; i++) {
             int sort = draw(8);
