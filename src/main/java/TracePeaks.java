@@ -108,9 +108,9 @@ public final class TracePeaks {
         lines.copyFrom(draftLines);
         found.find(now);
         history.forget();
-        log.total = 0;
+        log.forget();
         imageCurve.count = 0;
-        imageLog.total = 0;
+        imageLog.forget();
         tape.length = 0;
         return now.count;
     }
@@ -1482,41 +1482,48 @@ public final class TracePeaks {
     /** The LOG. It holds more than it shows: what an UNDONE ACT had pushed out is shown again. */
     private static final class Log {
         private static final int ROWS = LOG_LENGTH + MOST_UNDONE;
-        int total;
+        private int count;
+        private int next;
         private final int[] sort = new int[ROWS];
         private final int[] first = new int[ROWS];
         private final int[] kept = new int[ROWS];
 
         void copyFrom(Log other) {
-            total = other.total;
+            count = other.count;
+            next = other.next;
             System.arraycopy(other.sort, 0, sort, 0, ROWS);
             System.arraycopy(other.first, 0, first, 0, ROWS);
             System.arraycopy(other.kept, 0, kept, 0, ROWS);
         }
 
+        void forget() {
+            count = 0;
+        }
+
         void add(int what, int number, int peaks) {
-            int row = total % ROWS;
-            sort[row] = what;
-            first[row] = number;
-            kept[row] = peaks;
-            total++;
+            sort[next] = what;
+            first[next] = number;
+            kept[next] = peaks;
+            next = (next + 1) % ROWS;
+            count = Math.min(count + 1, ROWS);
         }
 
         void dropLatest() {
-            if (total > 0) {
-                total--;
+            if (count > 0) {
+                next = (next + ROWS - 1) % ROWS;
+                count--;
             }
         }
 
         int shown() {
-            return Math.min(total, LOG_LENGTH);
+            return Math.min(count, LOG_LENGTH);
         }
 
         int tell(int i, int what) {
             if (i < 0 || i >= shown()) {
                 return HIDDEN;
             }
-            int row = (total - 1 - i) % ROWS;
+            int row = (next + ROWS - 1 - i) % ROWS;
             switch (what) {
                 case 0: return sort[row];
                 case 1: return first[row];

@@ -37,6 +37,7 @@ public final class PromisesTest {
         status();
         undo();
         log();
+        logOfManyActs();
         noiseFor();
         pieces();
         room();
@@ -790,6 +791,30 @@ public final class PromisesTest {
         due("what had been pushed out is back", many.held(3), 60);
         due("log(0, 0)", many.log(0, 0), 7);
         due("log(59, 0)", many.log(59, 0), 7);
+    }
+
+    /** More acts than the log tells and more than can be undone, twice. */
+    private static void logOfManyActs() {
+        TracePeaks x = hills();
+        for (int i = 0; i < 170; i++) {
+            x.clip(i);
+        }
+        clipsDue(x, 169);
+        due("undo() of 40", Sentences.undoAll(x), 40);
+        clipsDue(x, 129);
+        for (int i = 130; i < 170; i++) {
+            x.clip(1000 - i);
+        }
+        due("undo() of 40 more", Sentences.undoAll(x), 40);
+        clipsDue(x, 129);
+    }
+
+    private static void clipsDue(TracePeaks x, int latest) {
+        due("log of 60", x.held(3), 60);
+        for (int i = 0; i < 60; i++) {
+            due("latest clip " + latest + ": log(" + i + ", 1)", x.log(i, 1), latest - i);
+        }
+        due("log(60, 1)", x.log(60, 1), HIDDEN);
     }
 
     // Promises 26 to 29

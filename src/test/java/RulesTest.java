@@ -36,6 +36,7 @@ public final class RulesTest {
         innerClasses();
         source(Files.readString(Path.of(args[0])));
         anyArguments();
+        counters();
         room();
         Checks.close("RulesTest");
     }
@@ -206,6 +207,46 @@ public final class RulesTest {
             return method.getName().equals("peak") && e.getCause() instanceof NoSuchElementException;
         } catch (IllegalAccessException e) {
             return false;
+        }
+    }
+
+    // No number that the object holds grows with its acts without an end: one that goes round to below 0
+    // would be no index. What STATUS counts is free to, as nothing is looked up by it.
+
+    private static final Set<String> FREE_TO_GROW = Set.of("refusedPlaces", "refusedBounds");
+
+    private static void counters() {
+        TracePeaks x = state(3);
+        for (int i = 0; i < 100; i++) {
+            x.ways(40, i);
+            x.image();
+            x.undo();
+        }
+        try {
+            counters(x, "TracePeaks", 0);
+        } catch (IllegalAccessException e) {
+            due("the fields can be looked at", false);
+        }
+    }
+
+    private static void counters(Object one, String path, int depth) throws IllegalAccessException {
+        for (Field field : one.getClass().getDeclaredFields()) {
+            if (Modifier.isStatic(field.getModifiers())) {
+                continue;
+            }
+            field.setAccessible(true);
+            String told = path + "." + field.getName();
+            if (field.getType() == int.class) {
+                int value = field.getInt(one);
+                boolean bounded = value >= -999 && value <= 999;
+                due(told + " is " + value + " after 4000 acts", bounded || FREE_TO_GROW.contains(field.getName()));
+            } else if (field.get(one) instanceof Object[] rows) {
+                for (Object row : rows) {
+                    counters(row, told + "[]", depth + 1);
+                }
+            } else if (field.getType().getDeclaringClass() == TracePeaks.class && depth < 4) {
+                counters(field.get(one), told, depth + 1);
+            }
         }
     }
 
